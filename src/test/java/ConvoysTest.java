@@ -117,7 +117,8 @@ public final class ConvoysTest {
         canal.join(1, 0);
         canal.pass(2);
         CHECK.refused("of a convoy that has left", canal, () -> canal.part(1), 6);
-        CHECK.same("a ship that has left is a convoy", convoy(canal, 1), "1 ");
+        CHECK.same("a ship that has left is a convoy", convoy(canal, 0) + convoy(canal, 1), "0 1 ");
+        CHECK.refused("the first of a convoy that has left", canal, () -> canal.part(0), 6);
     }
 
     private static void refusalStays() {

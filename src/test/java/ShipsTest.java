@@ -74,6 +74,10 @@ public final class ShipsTest {
             CHECK.same("reach of " + s, canal.ship(s, 4), due[s][3]);
             CHECK.same("alone", canal.ship(s, 8), 1);
         }
+        Check.type(canal, "u3t2");
+        canal.arrive();
+        CHECK.same("nothing of an earlier text", canal.ship(6, 0) + " " + canal.ship(6, 1), "3 2");
+        canal.undo();
         CHECK.same("one change", canal.undo(), 2);
         CHECK.same("undoes all of them", canal.account(1), 0);
     }

@@ -8,6 +8,7 @@ public final class UndoTest {
         failuresAreNoChanges();
         whatStays();
         saveAndRestore();
+        anotherCanal();
         CHECK.finish();
     }
 
@@ -108,6 +109,41 @@ public final class UndoTest {
         Check.type(canal, "1t1");
         CHECK.same("the text buffer stays behind restore", canal.arrive(), 1);
         CHECK.same("and was read anew", canal.ship(0, 3) + " " + canal.faultPosition(), "1 -1");
+    }
+
+    private static void anotherCanal() {
+        LockMaster canal = canal();
+        canal.set(1, 9);
+        Check.type(canal, "d2t5r1,d3t6r2,u4t7");
+        canal.arrive();
+        canal.join(1, 0);
+        String first = Check.portrait(canal);
+        canal.save();
+        while (canal.account(0) > 0) {
+            canal.undo();
+        }
+        canal.addReach(9, 90, 0, 0, 0);
+        canal.addReach(8, 80, 9, 60, 1);
+        canal.addReach(7, 70, 9, 50, 0);
+        canal.addReach(6, 60, 9, 40, 1);
+        Check.type(canal, "u9t1r3,u8t2,d7t3r3,d6t4");
+        canal.arrive();
+        String second = Check.portrait(canal);
+        canal.pass(1);
+        canal.undo();
+        CHECK.same("undone", Check.portrait(canal), second);
+        canal.restore();
+        CHECK.same("the whole first canal is restored", Check.portrait(canal), first);
+        CHECK.same("its settings too", canal.set(0, 5) + " " + canal.set(1, 5) + " " + canal.set(2, 5), "5 9 0");
+        LockMaster anew = canal();
+        Check.type(anew, "d2t5r1,d3t6r2,u4t7");
+        anew.arrive();
+        anew.join(1, 0);
+        canal.set(2, 0);
+        canal.set(1, 20);
+        canal.pass(7);
+        anew.pass(7);
+        CHECK.same("and goes on like one", Check.portrait(canal), Check.portrait(anew));
     }
 
     private static void saveAndRestore() {
