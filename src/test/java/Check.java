@@ -21,6 +21,14 @@ final class Check {
         });
     }
 
+    int checks() {
+        return checked;
+    }
+
+    int wrongOnes() {
+        return wrong;
+    }
+
     void same(String what, Object got, Object due) {
         checked++;
         if (!String.valueOf(got).equals(String.valueOf(due))) {
