@@ -46,7 +46,7 @@ final class Canals {
     }
 
     static LockMaster toTick(LockMaster canal, int tick) {
-        while (canal.tick() < tick) {
+        for (int i = 0; i < 13 && canal.tick() < tick; i++) {
             canal.pass(Math.min(40, tick - canal.tick()));
         }
         return canal;

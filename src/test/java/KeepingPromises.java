@@ -34,22 +34,26 @@ final class KeepingPromises {
         return canal;
     }
 
-    private static void undoesTheLatest(Check check) {
+    private static LockMaster changed(int changes) {
         LockMaster canal = three();
-        String[] before = new String[8];
-        for (int i = 0; i <= 7; i++) {
-            before[i] = Check.portrait(canal);
+        for (int i = 0; i < changes; i++) {
             change(canal, i);
         }
-        String last = Check.portrait(canal);
-        for (int i = 7; i >= 0; i--) {
-            canal.undo();
-            check.same("all as before the change " + i, Check.portrait(canal), before[i]);
+        return canal;
+    }
+
+    private static void undoesTheLatest(Check check) {
+        for (int left = 7; left >= 0; left--) {
+            LockMaster canal = changed(8);
+            for (int i = 8; i > left; i--) {
+                canal.undo();
+            }
+            check.same("all as behind " + left, Check.portrait(canal), Check.portrait(changed(left)));
+            for (int i = left; i < 8; i++) {
+                change(canal, i);
+            }
+            check.same("the same changes make the same canal", Check.portrait(canal), Check.portrait(changed(8)));
         }
-        for (int i = 0; i <= 7; i++) {
-            change(canal, i);
-        }
-        check.same("the same changes make the same canal", Check.portrait(canal), last);
         LockMaster settings = three();
         settings.set(0, 1);
         settings.set(1, 2);
@@ -104,22 +108,22 @@ final class KeepingPromises {
     }
 
     private static void inPlaceOfAnEarlierOne(Check check) {
-        LockMaster canal = three();
-        String first = Check.portrait(canal);
+        LockMaster canal = changed(3);
         canal.save();
-        change(canal, 2);
         change(canal, 3);
-        String second = Check.portrait(canal);
         canal.restore();
-        check.same("the first one", Check.portrait(canal), first);
-        change(canal, 2);
+        check.same("the first one", Check.portrait(canal), Check.portrait(changed(3)));
         change(canal, 3);
         canal.save();
+        String second = Check.portrait(changed(4));
         check.same("to save changes nothing", Check.portrait(canal), second);
-        check.same("and is no change, and forgets none", canal.undo(), 1);
+        check.same("and is no change", canal.undo(), 0);
         canal.pass(7);
         canal.restore();
         check.same("the second one in its place", Check.portrait(canal), second);
+        LockMaster kept = changed(4);
+        kept.save();
+        check.same("to save forgets no change", kept.undo(), 6);
         LockMaster empty = new LockMaster();
         empty.save();
         empty.addReach(1, 10, 0, 0, 0);
@@ -128,24 +132,20 @@ final class KeepingPromises {
     }
 
     private static void snapshotIsKept(Check check) {
-        LockMaster canal = three();
-        for (int i = 0; i <= 6; i++) {
-            change(canal, i);
-        }
-        String saved = Check.portrait(canal);
+        String saved = Check.portrait(changed(7));
+        LockMaster canal = changed(7);
         canal.save();
-        for (int i = 1; i <= 3; i++) {
+        for (int i = 1; i <= 2; i++) {
             canal.pass(5 * i);
             canal.set(2, i);
             canal.addShip(1, 1, 0, true);
             canal.restore();
             check.same("restored " + i, Check.portrait(canal), saved);
         }
-        canal.restore();
-        check.same("twice in a row", Check.portrait(canal), saved);
         canal.pass(3);
         canal.undo();
-        check.same("undo does not touch it", Check.portrait(canal), saved);
+        canal.restore();
+        check.same("twice, and undo does not touch it", Check.portrait(canal), saved);
         check.same("the settings", canal.set(0, 1) + " " + canal.set(1, 1) + " " + canal.set(2, 1), "5 20 7");
         canal.restore();
         check.same("the settings are restored", canal.set(0, 1) + " " + canal.set(1, 1) + " " + canal.set(2, 1), "5 20 7");
@@ -157,7 +157,7 @@ final class KeepingPromises {
             Check.answer(whole::undo);
         }
         whole.addReach(1, 10, 0, 0, 0);
-        whole.addReach(1, 11, 1, 4, 3);
+        whole.addReach(1, 11, 1, 8, 3);
         Canals.with(whole, "u1t1,d1t2,u1t3,d1t4").pass(4);
         whole.restore();
         check.same("over a canal of other reaches, locks and ships", Check.portrait(whole), before);
